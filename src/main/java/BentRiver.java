@@ -103,12 +103,12 @@ public final class BentRiver {
     private static final Word[] WORDS = Word.values();
 
     private final Text text = new Text();
-    private final Grammar grammar = new Grammar(text);
+    private final Question question = new Question();
+    private final Grammar grammar = new Grammar(text, question.code);
     private final River now = new River(new Valley());
     private final Past past = new Past();
     private final Forecast forecast = new Forecast(now);
     private final Dream dreamt = new Dream();
-    private final Question question = new Question();
     private final byte[] written = new byte[MOST_IMAGE];
     private final int[] bendsKept = new int[LAST_SEASON];
     private final int[] paidKept = new int[LAST_SEASON];
@@ -749,11 +749,12 @@ public final class BentRiver {
     /** Reads SUMS and TESTS. Each method is told how many of ( [ not row turn are open around it. */
     private static final class Grammar {
         private final Text text;
-        private Code code = null;
+        private Code code;
         private int where = 0;
 
-        Grammar(Text text) {
+        Grammar(Text text, Code code) {
             this.text = text;
+            this.code = code;
         }
 
         void readSum(Code into, int place) {
@@ -1431,7 +1432,7 @@ public final class BentRiver {
         private final River now;
         private final int[] seen = new int[3 * MOST_SEEN];
         private final int[] gains = new int[MOST_LORDS << MOST_LORDS];
-        private final boolean[] askedByFirst = new boolean[MOST_CELLS];
+        private final boolean[] askedWith = new boolean[MOST_CELLS * MOST_CELLS];
         private final int[] rowsAhead = new int[(MOST_SEEN_AHEAD + 1) * MOST_ROWS];
         private final int[] left = new int[MOST_ROWS];
 
@@ -1466,24 +1467,27 @@ public final class BentRiver {
                 return 0;
             }
             for (firstWillow = 0; firstWillow < MOST_CELLS; firstWillow++) {
-                if (takesWillows(firstWillow, 1) && lands(target, n, firstWillow, NONE)) {
-                    return 1;
+                if (takesWillows(firstWillow, 1)) {
+                    if (lands(target, n, firstWillow, NONE)) {
+                        return 1;
+                    }
+                    System.arraycopy(ahead.asked, 0, askedWith, firstWillow * MOST_CELLS, MOST_CELLS);
                 }
             }
             for (firstWillow = 0; firstWillow < MOST_CELLS; firstWillow++) {
-                if (takesWillows(firstWillow, 1) && !lands(target, n, firstWillow, NONE)) {
-                    // A second willow where no SUM was asked for changes nothing: it need not be tried.
-                    System.arraycopy(ahead.asked, 0, askedByFirst, 0, MOST_CELLS);
-                    for (secondWillow = firstWillow; secondWillow < MOST_CELLS; secondWillow++) {
-                        if (askedByFirst[secondWillow]
-                            && takesWillows(secondWillow, secondWillow == firstWillow ? 2 : 1)
-                            && lands(target, n, firstWillow, secondWillow)) {
-                            return 2;
-                        }
+                for (secondWillow = firstWillow; secondWillow < MOST_CELLS; secondWillow++) {
+                    if (takesPair(firstWillow, secondWillow) && lands(target, n, firstWillow, secondWillow)) {
+                        return 2;
                     }
                 }
             }
             return NONE;
+        }
+
+        /** Of two willows each must matter with the other: else all comes as with one alone, which was tried. */
+        private boolean takesPair(int first, int second) {
+            return takesWillows(first, first == second ? 2 : 1) && takesWillows(second, 1)
+                && askedWith[first * MOST_CELLS + second] && askedWith[second * MOST_CELLS + first];
         }
 
         private boolean takesWillows(int cell, int more) {
@@ -1709,7 +1713,7 @@ public final class BentRiver {
 
     /** A QUESTION of all LORDS. */
     private static final class Question {
-        private final Code code = new Code();
+        final Code code = new Code();
         private final int[] facts = new int[FACTS];
         private Word kind = null;
 
