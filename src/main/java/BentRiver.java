@@ -734,7 +734,10 @@ public final class BentRiver {
                 case PLUS: return left + right;
                 case MINUS: return left - right;
                 case TIMES: return left * right;
-                case OVER: return right == 0 ? 0 : Math.floorDiv(left, right);
+                case OVER:
+                    // The machine rounds towards 0, which is above where the quotient is below 0.
+                    boolean above = right != 0 && left % right != 0 && left < 0 != right < 0;
+                    return right == 0 ? 0 : left / right - (above ? 1 : 0);
                 case LESSER: return left < right ? left : right;
                 case GREATER: return left > right ? left : right;
                 case BELOW: return left < right ? 1 : 0;
@@ -974,9 +977,15 @@ public final class BentRiver {
             } else if (text.isWord(Word.LORD)) {
                 readLord(text);
             } else if (text.isWord(Word.EATS)) {
-                readEats(text, grammar);
+                if (isFirst(text, eatsTold)) {
+                    eatsTold = true;
+                    grammar.readSum(eats, IN_EATS);
+                }
             } else if (text.isWord(Word.BEND)) {
-                readBend(text, grammar);
+                if (isFirst(text, bendTold)) {
+                    bendTold = true;
+                    grammar.readTest(bend, IN_BEND);
+                }
             } else {
                 text.fail(SPELLING, text.place);
             }
@@ -1048,24 +1057,13 @@ public final class BentRiver {
             return false;
         }
 
-        private void readEats(Text text, Grammar grammar) {
-            if (eatsTold) {
+        private static boolean isFirst(Text text, boolean told) {
+            if (told) {
                 text.fail(TOO_MANY, text.place);
-                return;
+                return false;
             }
-            eatsTold = true;
             text.step();
-            grammar.readSum(eats, IN_EATS);
-        }
-
-        private void readBend(Text text, Grammar grammar) {
-            if (bendTold) {
-                text.fail(TOO_MANY, text.place);
-                return;
-            }
-            bendTold = true;
-            text.step();
-            grammar.readTest(bend, IN_BEND);
+            return true;
         }
     }
 
@@ -1466,22 +1464,31 @@ public final class BentRiver {
             if (lands(target, n, NONE, NONE)) {
                 return 0;
             }
-            for (firstWillow = 0; firstWillow < MOST_CELLS; firstWillow++) {
-                if (takesWillows(firstWillow, 1)) {
-                    if (lands(target, n, firstWillow, NONE)) {
+            for (int first = 0; first < MOST_CELLS; first++) {
+                if (takesWillows(first, 1)) {
+                    if (lands(target, n, first, NONE)) {
+                        firstWillow = first;
                         return 1;
                     }
-                    System.arraycopy(ahead.asked, 0, askedWith, firstWillow * MOST_CELLS, MOST_CELLS);
+                    rememberAsked(first);
                 }
             }
-            for (firstWillow = 0; firstWillow < MOST_CELLS; firstWillow++) {
-                for (secondWillow = firstWillow; secondWillow < MOST_CELLS; secondWillow++) {
-                    if (takesPair(firstWillow, secondWillow) && lands(target, n, firstWillow, secondWillow)) {
+            for (int first = 0; first < MOST_CELLS; first++) {
+                for (int second = first; second < MOST_CELLS; second++) {
+                    if (takesPair(first, second) && lands(target, n, first, second)) {
+                        firstWillow = first;
+                        secondWillow = second;
                         return 2;
                     }
                 }
             }
             return NONE;
+        }
+
+        private void rememberAsked(int first) {
+            for (int cell = 0; cell < MOST_CELLS; cell++) {
+                askedWith[first * MOST_CELLS + cell] = ahead.asked[cell];
+            }
         }
 
         /** Of two willows each must matter with the other: else all comes as with one alone, which was tried. */
