@@ -11,6 +11,8 @@ public final class FaultsTest {
         depth();
         tooMany();
         staying();
+        again();
+        wholeTape();
         Check.finish();
     }
 
@@ -64,6 +66,10 @@ public final class FaultsTest {
         faulty(1, "|valle");
         faulty(1, "|valleys 3 by 3 reach 1;");
         faulty(1, "|Valley 3 by 3 reach 1;");
+        faulty(1, "|xalley 3 by 3 reach 1;");
+        faulty(1, "|3 by 3 reach 1;");
+        faulty(1, "valley 3 |3 reach 1;");
+        faulty(1, "valley 3 by 3 |1;");
         faulty(1, "valley|");
         faulty(1, "valley|3 by 3 reach 1;");
         faulty(1, "valley  |by 3 by 3 reach 1;");
@@ -133,6 +139,11 @@ public final class FaultsTest {
         inHead(1, "lord ab|1" + end);
         inHead(1, "lord ab|C" + end);
         inHead(1, "lord ab |to 0 to 3 pays 1 joy 1 purse 1;");
+        inHead(1, "lord ab |0 to 3 pays 1 joy 1 purse 1;");
+        inHead(1, "lord ab from 0 |3 pays 1 joy 1 purse 1;");
+        inHead(1, "lord ab from 0 to 3 |1 joy 1 purse 1;");
+        inHead(1, "lord ab from 0 to 3 pays 1 |1 purse 1;");
+        inHead(1, "lord ab from 0 to 3 pays 1 joy 1 |1;");
         inHead(2, "lord ab from |4 to 3 pays 1 joy 1 purse 1;");
         inHead(2, "lord ab from 2 to |1 pays 1 joy 1 purse 1;");
         inHead(2, "lord ab from 2 to |4 pays 1 joy 1 purse 1;");
@@ -199,6 +210,7 @@ public final class FaultsTest {
         accepted(HEAD + "eats (((((min(1,2))))))+((((((1))))));", 2);
         accepted(HEAD + "eats min(min(min(min(min(min(1,2),2),2),2),2),2);", 2);
         inHead(4, "eats min(1,min(1,min(1,min(1,min(1,min(1,|(1)))))));");
+        inHead(4, "eats min(min(min(min(min(min(|(1),2),2),2),2),2),2);");
         inHead(1, "eats ((((((min |1,2))))));");
         accepted(HEAD + "bend [not[not[(1)=1]]];", 2);
         accepted(HEAD + "bend [not[not[(1)=(1)]]] or not [not [not [all]]];", 2);
@@ -244,7 +256,11 @@ public final class FaultsTest {
         Check.due("all stays", told.equals(Check.told(x)), true);
         Check.due("its name stays", x.letter(0, 0), 1);
         Check.due("undo still can", x.undo(), true);
+        x.chance(3);
+        x.later(0, 2);
         x.seed(7);
+        Check.due("a valley once more", Check.valley(x, "valley 3 by 2 reach 1;eats 1;bend all;spate 9;"), 4);
+        x.seasons(5);
         Check.due("a new valley", Check.valley(x, "valley 3 by 2 reach 1;spate 50;"), 2);
         Check.due("as at first", Check.told(x).startsWith("3 2 0 0 0 0 0 0 0 0 0 0 0 0 0 0 "), true);
         Check.due("none can be undone", x.undo(), false);
@@ -253,5 +269,33 @@ public final class FaultsTest {
         y.seed(7);
         Check.due("chance", x.chance(60), y.chance(60));
         Check.due("alike", Check.told(x).equals(Check.told(y)), true);
+    }
+
+    /** Nothing of one valley is left in the next one but one, which is read into the same place. */
+    private static void again() {
+        BentRiver x = Check.river(HEAD + "runs 1 1;soil 1 1 1;willow 2 2;eats 3;bend all;spate 100;"
+            + "lord a from 0 to 3 pays 1 joy 1 purse 9;");
+        x.seasons(2);
+        String plain = "valley 4 by 3 reach 2;";
+        Check.valley(x, plain);
+        Check.valley(x, plain);
+        Check.due("as a new one", Check.told(x).equals(Check.told(Check.river(plain))), true);
+        Check.due("soil", x.cell(1, 1, 0), 5);
+        Check.due("eats", x.eats(1, 1), -5);
+        Check.due("purses", x.sums(0, 2), 0);
+        Check.due("no spate", x.chance(20), 0);
+        Check.due("eats and bend can be told", Check.valley(x, HEAD + "eats 3;bend all;"), 3);
+        Check.due("and once more", Check.valley(x, HEAD + "eats 3;bend all;"), 3);
+        Check.due("and once more", Check.valley(x, HEAD + "eats 3;bend all;"), 3);
+    }
+
+    private static void wholeTape() {
+        accepted(HEAD + " ".repeat(1600 - HEAD.length()), 1);
+        faulty(1, HEAD + "|" + "x".repeat(1600 - HEAD.length()));
+        faulty(1, HEAD + "|" + "7".repeat(1600 - HEAD.length()));
+        faulty(1, HEAD + " ".repeat(1595 - HEAD.length()) + "eats |");
+        String sum = "1+".repeat(785) + "1;";
+        accepted(HEAD + "eats " + " ".repeat(1600 - 5 - HEAD.length() - sum.length()) + sum, 2);
+        Check.due("a long SUM", Check.river(HEAD + "eats " + sum).eats(0, 0), 786);
     }
 }

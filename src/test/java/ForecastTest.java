@@ -38,6 +38,7 @@ public final class ForecastTest {
         Check.due("no such row", x.works(0, 3, 1, -1), -1);
         Check.due("no such row", x.works(0, -1, 1, -1), -1);
         Check.due("n is 0", x.works(1, 0, 0, -1), -1);
+        Check.due("n is 0", x.works(1, 1, 0, -1), -1);
         Check.due("n is 21", x.works(1, 0, 21, -1), -1);
         Check.due("n is 20", x.works(1, 1, 20, -1), 0);
         // one in each of two cells: the first comes first
@@ -71,6 +72,12 @@ public final class ForecastTest {
         y.plant(1, 0);
         works(y, 1, 0, 1);
         Check.due("only one fits", y.works(1, 2, 1, -1), -1);
+        // a ninth willow can be set, one in each of two cells, too
+        BentRiver z = Check.river("valley 3 by 3 reach 7;runs 1 1;eats column*(2-column)*(9-roots);"
+            + "willow 1 0;".repeat(8) + "willow 1 2;".repeat(8));
+        works(z, 1, 0, 1);
+        works(z, 1, 2, 1, 8);
+        works(z, 1, 1, 1, 8, 10);
     }
 
     private static void rest() {
@@ -109,6 +116,9 @@ public final class ForecastTest {
         // a BEND comes if just one offers: a has joy of it, b has none
         Check.due("one alone", Check.river(two.replace("eats pay", "eats pay*(9-pay)")
             + "lord a from 1 to 1 pays 5 joy 9 purse 99;lord b from 1 to 1 pays 5 joy 0 purse 99;").rest(1), 1);
+        // two make it go, but so does the third alone
+        Check.due("the fewest", Check.river(both + "lord a from 1 to 1 pays 5 joy 20 purse 99;"
+            + "lord b from 1 to 1 pays 5 joy 20 purse 99;lord c from 1 to 1 pays 10 joy 20 purse 99;").rest(1), 4);
         // whatever the others do, one of the two would do otherwise
         Check.due("without rest", Check.river(NO_REST).rest(1), -1);
     }

@@ -136,6 +136,7 @@ public final class ImageTest {
         x.see();
         int[] bytes = Check.image(x);
         x.seasons(5);
+        x.later(0, 2);
         Check.due("on", Check.on(x, bytes), true);
         Check.due("season", x.has(3), 3);
         Check.due("nothing is KEPT", x.has(8), 0);

@@ -200,6 +200,14 @@ public final class SeasonsTest {
         BentRiver y = Check.river(head + "all;");
         Check.due("on", Check.on(y, Check.sealed(bytes)), true);
         Check.due("not beyond 999", y.straight(), -1);
+        // it would be straight behind three seasons, of which one comes
+        BentRiver z = Check.river("valley 3 by 4 reach 7;runs 1 3;eats column*(2-column)*(4-row);bend turn>0;");
+        Check.due("behind three", z.straight(), 3);
+        bytes = Check.image(z);
+        bytes[0] = 3;
+        bytes[1] = 998 - 768;
+        Check.due("on", Check.on(z, Check.sealed(bytes)), true);
+        Check.due("not beyond 999", z.straight(), -1);
     }
 
     private static void limits() {
@@ -212,6 +220,9 @@ public final class SeasonsTest {
         Check.due("chance(least)", x.chance(Integer.MIN_VALUE), -1);
         Check.due("status(3)", x.status(3), 6);
         Check.due("no act", x.has(10), 0);
+        Check.due("chance(1)", x.chance(1), 0);
+        Check.due("season", x.has(3), 1);
+        x.undo();
         for (int i = 0; i < 9; i++) {
             Check.due("seasons(100)", x.seasons(100), 0);
         }

@@ -44,6 +44,7 @@ public final class SeenTest {
         Check.due("has(9)", x.has(9), 16);
         Check.due("two rows, no more", see(x, 0, 0, 0, 1, 0, 0), 2);
         Check.due("has(9)", x.has(9), 2);
+        Check.due("column 3 of 3", see(Check.river("valley 3 by 3 reach 1;"), 0, 3, 0), -1);
         x.seasons(3);
         x.undo();
         Check.on(x, Check.image(x));
@@ -113,7 +114,10 @@ public final class SeenTest {
         Check.due("SEASONS beyond 999 are by none", x.ran(0), 0);
         Check.due("without a row", x.tells(0, 0), -1);
         see(x, 0, 0, 0);
-        x.seasons(2);
+        x.seasons(1);
+        Check.due("the last SEASON", x.tells(0, 0), 1);
+        Check.due("the last SEASON", x.tells(0, 1), 1);
+        x.seasons(1);
         Check.due("now", x.ran(0), 1);
         Check.due("no SEASON comes", x.tells(0, 0), -1);
         Check.due("no SEASON comes", x.tells(0, 1), -1);
