@@ -273,7 +273,7 @@ public final class FaultsTest {
 
     /** Nothing of one valley is left in the next one but one, which is read into the same place. */
     private static void again() {
-        BentRiver x = Check.river(HEAD + "runs 1 1;soil 1 1 1;willow 2 2;eats 3;bend all;spate 100;"
+        BentRiver x = Check.river(HEAD + "runs 0 2;runs 1 1;soil 1 1 1;willow 2 2;eats 3;bend all;spate 100;"
             + "lord a from 0 to 3 pays 1 joy 1 purse 9;");
         x.seasons(2);
         String plain = "valley 4 by 3 reach 2;";
@@ -283,7 +283,9 @@ public final class FaultsTest {
         Check.due("soil", x.cell(1, 1, 0), 5);
         Check.due("eats", x.eats(1, 1), -5);
         Check.due("purses", x.sums(0, 2), 0);
-        Check.due("no spate", x.chance(20), 0);
+        for (int i = 0; i < 9; i++) {
+            Check.due("no spate", x.chance(100), 0);
+        }
         Check.due("eats and bend can be told", Check.valley(x, HEAD + "eats 3;bend all;"), 3);
         Check.due("and once more", Check.valley(x, HEAD + "eats 3;bend all;"), 3);
         Check.due("and once more", Check.valley(x, HEAD + "eats 3;bend all;"), 3);

@@ -169,5 +169,12 @@ public final class ForecastTest {
         BentRiver x = Check.river("valley 3 by 2 reach 1;lord a from 1 to 1 pays 5 joy 0 purse 9;");
         x.offer(0, 0);
         Check.due("offers of now", x.dream(-1), 0);
+        // a larger valley ahead of a smaller one leaves nothing
+        String lordOfAll = "bend row=2;lord a from 0 to 2 pays 5 joy 0 purse 9;";
+        BentRiver y = Check.river("valley 3 by 3 reach 1;" + lordOfAll);
+        Check.due("in row 2", y.dream(-1), 15);
+        Check.valley(y, "valley 3 by 2 reach 1;" + lordOfAll);
+        Check.due("no row 2", y.dream(-1), 0);
+        Check.due("no row 2", y.dream(0), 0);
     }
 }

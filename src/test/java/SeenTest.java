@@ -102,6 +102,13 @@ public final class SeenTest {
     }
 
     private static void nearTheEnd() {
+        BentRiver y = Check.river("valley 3 by 5 reach 7;eats 0;");
+        int[] bytes = Check.image(y);
+        bytes[0] = 3;
+        bytes[1] = 998 - 768;
+        Check.due("on", Check.on(y, Check.sealed(bytes)), true);
+        Check.due("all are told apart", y.tells(1, 0), 1);
+        Check.due("all are told apart", y.tells(1, 1), 1);
         BentRiver x = Check.river("valley 3 by 2 reach 7;eats column*(2-column);");
         for (int i = 0; i < 9; i++) {
             x.seasons(100);
