@@ -18,6 +18,14 @@ final class Check {
         due(what, got ? 1 : 0, want ? 1 : 0);
     }
 
+    static int answers() {
+        return answers;
+    }
+
+    static int wrong() {
+        return wrong;
+    }
+
     static void finish() {
         System.out.println(answers + " answers, " + wrong + " wrong");
         if (wrong != 0) {
