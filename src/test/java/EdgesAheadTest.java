@@ -79,6 +79,9 @@ public final class EdgesAheadTest {
                     Check.due("sums(" + behind[i] + ", " + what + ")", x.sums(behind[i], what), due[i][what]);
                 }
             }
+            Check.due("the first column", Check.river(STILL + "bend column=0;").sums(1, 0), 1);
+            Check.due("the last column", Check.river(STILL + "bend column=2;").sums(1, 0), 1);
+            Check.due("no column", Check.river(STILL + "bend column>2;").sums(1, 0), 0);
             for (int what = 0; what < 3; what++) {
                 Check.due("61", x.sums(61, what), -1);
                 Check.due("-1", x.sums(-1, what), -1);
@@ -95,6 +98,7 @@ public final class EdgesAheadTest {
             Check.due("none", Check.river(STILL + "bend not all;").straight(), 0);
             Check.due("one", Check.river(STILL + "bend column=2;").straight(), -1);
             Check.due("one", Check.river(STILL + "bend column=0;").straight(), -1);
+            Check.due("in no column", Check.river(STILL + "bend column>2;").straight(), 0);
         });
         Edges.edge("Behind how many SEASONS AHEAD (0: now) it is STRAIGHT first; NONE when it is not, or without a valley.", () -> {
             Check.due("1", Check.river(STILL + "bend season<1;").straight(), 1);
@@ -154,6 +158,28 @@ public final class EdgesAheadTest {
             Check.due("a tenth", y.works(1, 2, 1, -1), -1);
             y.plant(1, 0);
             Check.due("a tenth", y.works(1, 2, 1, -1), -1);
+            // one fits into each of two CELLS, of which each has eight
+            BentRiver eight = between(9, 9);
+            for (int i = 0; i < 8; i++) {
+                eight.plant(1, 0);
+                eight.plant(1, 2);
+            }
+            works(eight, 1, 1, 1, 8, 10);
+            eight.plant(1, 2);
+            works(eight, 1, 1, 1, 8);
+            // one in each of two CELLS would do, but one of them has nine
+            BentRiver first = between(10, 1);
+            BentRiver second = between(1, 10);
+            for (int i = 0; i < 8; i++) {
+                first.plant(1, 0);
+                second.plant(1, 2);
+            }
+            Check.due("three", first.works(1, 1, 1, -1), -1);
+            Check.due("three", second.works(1, 1, 1, -1), -1);
+            first.plant(1, 0);
+            second.plant(1, 2);
+            Check.due("a tenth", first.works(1, 1, 1, -1), -1);
+            Check.due("a tenth", second.works(1, 1, 1, -1), -1);
             BentRiver z = between(10, 0);
             for (int i = 0; i < 9; i++) {
                 z.plant(1, 0);
@@ -170,6 +196,9 @@ public final class EdgesAheadTest {
             works(Check.river(held), 1, 2, 2);
             works(Check.river(held), 1, 1, 2, 1);
             works(Check.river(held.replace("1-roots", "2-roots")), 1, 1, 2, 1, 1);
+            // the first CELL of all
+            works(Check.river("valley 3 by 3 reach 7;runs 0 1;eats max(0,1-column)*(1-roots);"), 0, 2, 1, 0);
+            works(Check.river("valley 3 by 3 reach 7;runs 0 1;eats max(0,1-column)*(1-roots);"), 0, 1, 1, 0, 2);
             // row by row: it is back in row 2 if held from going to row 0, or to row 1
             works(Check.river("valley 3 by 4 reach 7;runs 1 2;eats column*(2-column)*max(0,3-row)*(1-roots);"), 1, 2, 2, 8);
             // two in one CELL; two of which the second one is the later
@@ -312,6 +341,20 @@ public final class EdgesAheadTest {
             dream("valley 3 by 3 reach 1;bend column=2 and row=2;" + lord, 1, 0, 1, 2);
             dream("valley 3 by 3 reach 1;bend column=0 and row>0;" + lord, 1, 1, 0, 0);
             dream("valley 3 by 3 reach 1;bend not all;" + lord, 0, 0, 0, 0);
+            dream("valley 3 by 8 reach 7;bend column=0 and row=7;" + lord, 1, 7, 0, 0);
+            // the rows before and behind are the course's own, the row itself in the first and the last column
+            dream("valley 4 by 4 reach 3;bend column=0 and before=2 or column=1 and before=2 and behind=0 "
+                + "or column=2 and before=1 and behind=3 and row=0 or column=3 and behind=3 and before=0;"
+                + "lord a from 0 to 3 pays 1 joy 0 purse 9;", 4, 2, 1, 0, 3);
+            dream("valley 4 by 4 reach 3;bend column=0 and row=1 or column=1 and row=2 and behind=before or column=2 and "
+                + "behind=before;lord a from 0 to 3 pays 1 joy 0 purse 9;", 3, 1, 2, 1, 2);
+            BentRiver x = Check.river("valley 3 by 3 reach 1;bend row=2;" + lord);
+            Check.due("in row 2", x.dream(-1), 3);
+            Check.valley(x, "valley 3 by 2 reach 1;bend row=2;" + lord);
+            Check.due("there is no row 2", x.dream(-1), 0);
+            Check.due("the first", x.dream(0), 0);
+            Check.valley(x, "valley 3 by 3 reach 1;bend turn=4;" + lord);
+            Check.due("not by what was found ahead", x.dream(-1), 0);
         });
     }
 
@@ -367,6 +410,8 @@ public final class EdgesAheadTest {
             BentRiver y = Check.river(DOWN);
             Edges.see(y, 0, 1, 2);
             Check.due("0 is now", y.ran(1), 1 << 2);
+            Check.due("column 3 of 3", Edges.see(y, 0, 3, 0), -1);
+            Check.due("row 6 of 6", Edges.see(y, 0, 0, 6), -1);
         });
         Edges.edge("all staying, when it is none such, or without a valley.", () -> {
             BentRiver x = new BentRiver();
@@ -400,6 +445,14 @@ public final class EdgesAheadTest {
             Check.due("of another column", x.ran(1), 63);
             Edges.see(x, 0, 0, 1);
             Check.due("of another column", x.ran(1), 0);
+            // sixteen, of which the last one alone is not so
+            int[] sixteen = new int[48];
+            sixteen[45] = 1;
+            sixteen[46] = 1;
+            sixteen[47] = 4;
+            Edges.see(x, sixteen);
+            Check.due("all sixteen", x.ran(1), 1 << 5);
+            Check.due("all sixteen", x.ran(0), 1);
         });
         Edges.edge("SEASONS beyond 999 are by none. NONE when there is none such.", () -> {
             BentRiver x = Edges.inSeason(970, STILL);
@@ -409,6 +462,8 @@ public final class EdgesAheadTest {
             Check.due("SEASON 1000", x.ran(0), 0);
             Edges.see(x, 0, 0, 0, 30, 0, 0);
             Check.due("one of them", x.ran(0), 0);
+            Edges.see(x, 29, 0, 0);
+            Check.due("it is SEEN no more", x.ran(0), 1);
             BentRiver y = Edges.inSeason(999, STILL);
             Check.due("nothing is SEEN", y.ran(0), 3);
             Edges.see(y, 0, 0, 1);
@@ -441,6 +496,16 @@ public final class EdgesAheadTest {
             BentRiver y = Check.river(parting(0, 30));
             Check.due("31 is too late", y.tells(2, 0), 1);
             Check.due("two left", y.tells(2, 1), 2);
+            // rows 0 and 2 meet in row 1, row 1 goes to row 0: two left; by row 0 alone, one
+            BentRiver down = Check.river("valley 3 by 3 reach 7;eats column*(2-column)*(3-row);");
+            Check.due("left", down.tells(1, 1), 2);
+            Edges.see(down, 0, 1, 0);
+            Check.due("left", down.tells(1, 1), 1);
+            BentRiver eight = Check.river(DOWN.replace("by 6", "by 8"));
+            Edges.see(eight, 1, 1, 1);
+            Check.due("rows 0 and 2", eight.ran(1), 5);
+            Check.due("are never told apart", eight.tells(1, 0), 1);
+            Check.due("left", eight.tells(1, 1), 2);
             BentRiver z = Check.river(parting(0, 1));
             Check.due("2", z.tells(2, 0), 2);
             Edges.see(z, 0, 2, 2);

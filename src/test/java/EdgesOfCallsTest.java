@@ -7,6 +7,7 @@ public final class EdgesOfCallsTest {
 
     public static void main(String[] args) {
         newObject();
+        lastCall();
         feed();
         end();
         valley();
@@ -46,6 +47,22 @@ public final class EdgesOfCallsTest {
                 Check.due("NONE", BentRiver.NONE, -1);
                 Check.due("NOTHING", BentRiver.NOTHING, -1000000000000000L);
             });
+    }
+
+    private static void lastCall() {
+        Edges.edge("An object is used for at most 512 calls after it has been made", () -> {
+            BentRiver x = new BentRiver();
+            x.feed(0x76616c6c, 0x65792033, 0x20627920, 0x32207265, 0x61636820);
+            x.feed(0x313b7370, 0x61746520, 0x3130303b, 0x20202020, 0x20202020);
+            x.end(32);
+            Check.due("the 4th call", x.valley(), 2);
+            for (int i = 0; i < 169; i++) {
+                Check.due("chance", x.chance(3), 3);
+                x.see();
+                x.undo();
+            }
+            Check.due("the 512th call", x.status(1), 169);
+        });
     }
 
     private static int feedBlanks(BentRiver x) {
@@ -146,6 +163,29 @@ public final class EdgesOfCallsTest {
             Check.valley(y, "valley 3 by 2 reach 1;");
             Check.due("nothing of a larger one", Check.told(y).equals(Check.told(Check.river("valley 3 by 2 reach 1;"))), true);
             Check.due("no lords", y.lord(0, 0), -1);
+            Check.due("no purses", y.sums(0, 2), 0);
+        });
+        Edges.edge("Without one all is as at first", () -> {
+            // each text in turn is read where the last but one had been
+            String all = "valley 3 by 2 reach 1;runs 0 1;runs 1 1;runs 2 1;soil 0 0 1;willow 0 0;willow 2 1;spate 100;eats 7+8;"
+                + "bend all and all;" + LORDS;
+            BentRiver x = Check.river(all);
+            Check.due("paid", x.seasons(1), 6);
+            BentRiver plain = Check.river("valley 3 by 2 reach 1;");
+            for (int i = 0; i < 2; i++) {
+                Check.due("plain", Check.valley(x, "valley 3 by 2 reach 1;"), 1);
+                Check.due("as a new one", Check.told(x).equals(Check.told(plain)), true);
+                Check.due("soil", x.cell(0, 0, 0), 5);
+                Check.due("eats", x.eats(0, 0), -5);
+                Check.due("BENDS", x.has(5), 0);
+                Check.due("FUND", x.has(4), 0);
+                Check.due("purses", x.sums(0, 2), 0);
+                Check.due("spates", x.chance(100), 0);
+            }
+            for (int i = 0; i < 3; i++) {
+                Check.due("all of it once more", Check.valley(x, all), 12);
+                Check.due("all of it once more", Check.told(x).equals(Check.told(Check.river(all))), true);
+            }
         });
         Edges.edge("the seed stays.", () -> {
             BentRiver x = used();

@@ -76,9 +76,14 @@ public final class EdgesOfQuestionsTest {
             for (String word : "column soil roots pay ever before behind all not x first valley".split(" ")) {
                 Edges.wronglyAsked(x, 1, "total |" + word);
             }
-            for (String word : "number from to pays joy purse offers bends season".split(" ")) {
-                Edges.asked(x, "often 0>" + word, 0);
+            String[] words = "number from to pays joy purse offers bends season".split(" ");
+            int[] totals = {3, 3, 7, 12, 102, 1023, 3, 5, 0};
+            for (int i = 0; i < words.length; i++) {
+                Edges.asked(x, "total " + words[i], totals[i]);
             }
+            x.seasons(2);
+            Edges.asked(x, "most season", 2);
+            Edges.asked(x, "most purse*(1-number)", 6);
             Edges.asked(x, "least 9999", 9999);
             Edges.asked(x, "most 9999*9999", 1000000);
             Edges.asked(x, "most 1/0", 0);
@@ -180,6 +185,8 @@ public final class EdgesOfQuestionsTest {
             Check.due("without a valley", Check.ask(x, "often all"), BentRiver.NOTHING);
             Check.due("the FAULT of valley() is the latest", x.fault(0), 2);
             Check.due("its place", x.fault(1), 12);
+            Check.ask(x, "often all");
+            Check.due("the tape went", x.end(1), false);
             BentRiver y = Check.river(TEXT);
             String told = Check.told(y);
             Edges.wronglyAsked(y, 1, "often |");
@@ -276,6 +283,7 @@ public final class EdgesOfQuestionsTest {
                 bytes[i + 2] = 231;
             }
             x.seasons(2);
+            x.later(0, 1);
             Check.due("on", Check.on(x, Check.sealed(bytes)), true);
             Check.due("SEASON", x.has(3), 999);
             Check.due("FUND", x.has(4), 999999);

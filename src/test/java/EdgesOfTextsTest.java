@@ -174,6 +174,10 @@ public final class EdgesOfTextsTest {
         Check.due(sum, Check.river("valley 3 by 2 reach 1;eats " + sum + ";").eats(0, 0), due);
     }
 
+    private static void holds(String test, boolean due) {
+        Check.due(test, Check.river("valley 3 by 2 reach 1;bend " + test + ";").column(0, 2) == 1, due);
+    }
+
     private static void numbersOfSums() {
         Edges.edge("N (1 to 4 digits)", () -> {
             value("0", 0);
@@ -211,6 +215,32 @@ public final class EdgesOfTextsTest {
             value("(0-7)/0", 0);
             value("5+7/(3-3)", 5);
         });
+        Edges.edge("min ( SUM , SUM ) ; max ( SUM , SUM )", () -> {
+            value("min(2,3)*10+max(2,3)", 23);
+            value("min(3,2)*10+max(3,2)", 23);
+            value("min(2,2)*10+max(2,2)", 22);
+            value("min(0-1,0)*10+max(0-1,0)", -10);
+            value("max(0-9999*9999,0-9999*9999+1)", -999999);
+        });
+        Edges.edge("TEST: BOTH { or BOTH }. BOTH: FACT { and FACT }. FACT: not FACT; [ TEST ] ; all; SUM SIGN SUM, SIGN < or > or = .",
+            () -> {
+                holds("all", true);
+                holds("not all", false);
+                holds("1<2", true);
+                holds("2<2", false);
+                holds("2>1", true);
+                holds("2>2", false);
+                holds("2=2", true);
+                holds("2=1", false);
+                holds("not 1<2", false);
+                holds("all or all and not all", true);
+                holds("[all or all] and not all", false);
+                holds("not all and all", false);
+                holds("not [not all and all]", true);
+                holds("not all or not all or all", true);
+                holds("all and all and not all", false);
+                holds("1+1=2*1", true);
+            });
         Edges.edge("each sum, difference, product above 10 to the 6 is that", () -> {
             value("1000*1000", 1000000);
             value("1000*1000+1", 1000000);
@@ -365,6 +395,14 @@ public final class EdgesOfTextsTest {
             Edges.faulty(1, HEAD + "|spat 1;");
             Edges.faulty(1, HEAD + "|123456;");
             Edges.faulty(1, HEAD + "spate 1|?;");
+            Edges.faulty(1, "valley |by 2 reach 1;");
+            Edges.faulty(1, "valley |;3 by 2 reach 1;");
+            Edges.faulty(1, HEAD + "spate |;");
+            Edges.faulty(1, HEAD + "bend 1 |;");
+            Edges.faulty(1, HEAD + "bend 1 |and 1=1;");
+            Edges.faulty(1, HEAD + "bend 1+|;");
+            Edges.faulty(1, HEAD + "eats min |1,2;");
+            Edges.faulty(1, HEAD + "eats max|;");
             Edges.faulty(1, HEAD + "spate |spate;");
             Edges.faulty(1, HEAD + "bend all |nor all;");
         });
@@ -422,6 +460,9 @@ public final class EdgesOfTextsTest {
             Edges.accepted(HEAD + "bend [not [not ((1)) = 1]];", 2);
             Edges.faulty(4, HEAD + "bend [not [not ((|(1))) = 1]];");
             Edges.faulty(4, HEAD + "bend [not [not ((max|(1,2))) = 1]];");
+            Edges.faulty(4, HEAD + "eats min(min(min(min(min(min(|(1),2),2),2),2),2),2);");
+            Edges.faulty(4, HEAD + "eats (((((min(|(1),2))))));");
+            Edges.faulty(4, HEAD + "eats (((((max(2,|(1)))))));");
         });
         Edges.edge("4 the 7th of ( [ not that is open at once ... at it;", () -> {
             Edges.accepted(HEAD + "eats ((((((1))))))+((((((1))))))*max((((((1)))))," + "(((((1)))))" + ");", 2);
