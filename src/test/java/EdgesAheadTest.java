@@ -174,6 +174,7 @@ public final class EdgesAheadTest {
                 first.plant(1, 0);
                 second.plant(1, 2);
             }
+            Check.due("two more in one that has eight", first.works(1, 2, 1, -1), -1);
             Check.due("three", first.works(1, 1, 1, -1), -1);
             Check.due("three", second.works(1, 1, 1, -1), -1);
             first.plant(1, 0);

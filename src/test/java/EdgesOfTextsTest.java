@@ -406,6 +406,20 @@ public final class EdgesOfTextsTest {
             Edges.faulty(1, HEAD + "spate |spate;");
             Edges.faulty(1, HEAD + "bend all |nor all;");
         });
+        Edges.edge("words and numbers whole, at their first byte", () -> {
+            // a full tape that ends within a word, and with one
+            String blanks = HEAD + " ".repeat(1600 - HEAD.length());
+            for (String own : OWN_WORDS.split(", ")) {
+                String half = own.substring(0, own.length() - 1);
+                // bend itself would go on
+                if (!half.equals("bend")) {
+                    Edges.faulty(1, blanks.substring(0, 1600 - half.length()) + "|" + half);
+                }
+            }
+            Edges.faulty(1, blanks.substring(0, 1595) + "spate|");
+            Edges.faulty(1, blanks.substring(0, 1593) + "spate 7|");
+            Edges.accepted(blanks.substring(0, 1592) + "spate 7;", 2);
+        });
         Edges.edge("where a number is asked, a 5th digit at itself;", () -> {
             Edges.faulty(1, "valley 0003|0 by 2 reach 1;");
             Edges.faulty(1, HEAD + "runs 0000|0 0;");
