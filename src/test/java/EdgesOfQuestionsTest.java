@@ -3,6 +3,9 @@ public final class EdgesOfQuestionsTest {
     private static final String TEXT = "valley 5 by 4 reach 3;runs 0 1;runs 1 3;runs 2 2;runs 3 3;eats 0;"
         + "lord a from 0 to 2 pays 7 joy 3 purse 20;lord b from 2 to 4 pays 5 joy 99 purse 4;"
         + "lord c from 1 to 1 pays 0 joy 0 purse 999;";
+    // every word that is no PART of a QUESTION
+    private static final String WRONG_PARTS = "valley by reach runs soil willow lord eats bend spate column roots pay ever before "
+        + "behind or and not all first last often total most least x";
     private static final String SMALL = "valley 3 by 2 reach 1;runs 1 1;eats 0;bend all;lord a from 0 to 2 pays 2 joy 0 purse 300;";
 
     public static void main(String[] args) {
@@ -73,8 +76,9 @@ public final class EdgesOfQuestionsTest {
         });
         Edges.edge("PART: N; number; from; to; pays; joy; purse; offers; bends; season; row PART; turn PART;", () -> {
             BentRiver x = Check.river(TEXT);
-            for (String word : "column soil roots pay ever before behind all not x first valley".split(" ")) {
+            for (String word : WRONG_PARTS.split(" ")) {
                 Edges.wronglyAsked(x, 1, "total |" + word);
+                Edges.wronglyAsked(x, 1, "often 1=|" + word);
             }
             String[] words = "number from to pays joy purse offers bends season".split(" ");
             int[] totals = {3, 3, 7, 12, 102, 1023, 3, 5, 0};

@@ -316,9 +316,19 @@ public final class EdgesOfTextsTest {
             for (String word : "column row turn season".split(" ")) {
                 Edges.accepted(HEAD + "eats " + word + ";bend " + word + "=0;", 3);
             }
-            for (String word : "number from to pays joy purse offers bends all not x".split(" ")) {
+            // every word that means something elsewhere, tried where it means nothing
+            String others = "valley by reach runs willow lord from to pays joy purse eats bend spate number offers bends or and "
+                + "first last often total most least x";
+            for (String word : others.split(" ")) {
                 Edges.faulty(1, HEAD + "eats |" + word + ";");
+                Edges.faulty(1, HEAD + "eats 1+|" + word + ";");
+                Edges.faulty(1, HEAD + "bend |" + word + "=0;");
+                Edges.faulty(1, HEAD + "bend 0=|" + word + ";");
             }
+            Edges.faulty(1, HEAD + "eats |all;");
+            Edges.faulty(1, HEAD + "eats |not 1;");
+            Edges.faulty(1, HEAD + "bend 0=|all;");
+            Edges.faulty(1, HEAD + "bend 0=|not 1=1;");
         });
     }
 
